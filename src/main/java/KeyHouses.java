@@ -105,7 +105,8 @@ public final class KeyHouses {
     private static final int OR = 13;
     private static final int OP_BITS = 4;
 
-    private static final long BROKEN = Long.MIN_VALUE;
+    // Far from all that a sum may be.
+    private static final long BROKEN = -1L << 60;
     private static final long SUM_LIMIT = 1000000000L;
     private static final int MOST_MINDED = 99;
 

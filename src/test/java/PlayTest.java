@@ -224,6 +224,20 @@ public final class PlayTest {
         x.give(0, -1);
         check.due(29, "by none", x.best(0), -100);
         check.due(29, "by none", x.best(1), -100);
+        KeyHouses y = new KeyHouses();
+        y.house(8, 7);
+        y.give(7, 0);
+        set(y, 4, 0b00000001);
+        check.due(29, "by 7", y.best(0), 7);
+        y.give(7, -1);
+        y.give(0, 0);
+        set(y, 4, 0b10000000);
+        check.due(29, "by -7", y.best(0), -7);
+        Check.law(y, "lends");
+        y.force(0);
+        set(y, 4, 255);
+        check.due(29, "all keys, by 0", y.best(0), 0);
+        check.due(29, "all keys, by 0", y.best(1), 8);
         check.due(29, "best(2)", x.best(2), -100);
         check.due(29, "best(-1)", x.best(-1), -100);
     }
@@ -263,7 +277,12 @@ public final class PlayTest {
         set(x, 4, 0b00000001);
         set(x, 8, 0b00001000);
         check.due(32, "by -7, 0 and all between", x.find(0), 400);
-        check.due(32, "by -4 (each other has two)", x.find(1), 503);
+        check.due(32, "by -4", x.find(1), 503);
+        x.forget();
+        x.motif(255);
+        check.due(32, "all keys are not there", x.find(-1), 0);
+        set(x, 15, 255);
+        check.due(32, "all keys, by 0", x.find(0), 1507);
     }
 
     private static void debts() {

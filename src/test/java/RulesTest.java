@@ -105,7 +105,7 @@ public final class RulesTest {
         }
         Matcher calls = Pattern.compile("\\b(Arrays|Math|Integer|Long|System|String)\\.(\\w+)").matcher(bare);
         while (calls.find()) {
-            expect(("Arrays.fill System.arraycopy Math.min Math.max Integer.bitCount Long.MIN_VALUE ").contains(calls.group() + " "),
+            expect(("Arrays.fill System.arraycopy Math.min Math.max Integer.bitCount ").contains(calls.group() + " "),
                 "it uses " + calls.group());
         }
         for (char sign : text.toCharArray()) {

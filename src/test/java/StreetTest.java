@@ -183,6 +183,12 @@ public final class StreetTest {
     private static void shifts() {
         KeyHouses x = new KeyHouses();
         check.due(19, "without music", x.shift(7), 0);
+        x.note(7, 3);
+        check.due(19, "shift(-7)", x.shift(-7), 1);
+        check.due(19, "music(3)", x.music(3), 1);
+        check.due(19, "shift(7)", x.shift(7), 1);
+        check.due(19, "shift(1)", x.shift(1), -3);
+        x.note(7, 3);
         x.note(0, 3);
         x.note(2, 4);
         check.due(19, "shift(-1)", x.shift(-1), -3);

@@ -179,6 +179,13 @@ public final class TextTest {
         ruleFault("minds " + Check.repeat("[", 9) + "1" + Check.repeat("]", 9), 14);
         ruleFault("lends if " + Check.repeat("(", 4) + Check.repeat("[", 5) + "1", 17);
         ruleFault("lends if " + Check.repeat("(", 8) + "1 = 1" + Check.repeat(")", 8) + " and ([1] = 1)", -1);
+        ruleFault("lends if " + Check.repeat("(", 9) + "1 = 1", 17);
+        ruleFault("lends if " + Check.repeat("(", 8) + "[1] = 1", 17);
+        ruleFault("minds " + Check.repeat("[1]+", 12) + "1", -1);
+        ruleFault(Check.repeat(";", 400), 0);
+        ruleFault("minds " + Check.repeat("[", 8) + "1" + Check.repeat("]", 8) + Check.repeat(")", 377), 23);
+        ruleFault("minds 1" + Check.repeat(" ", 393), -1);
+        ruleFault("minds 1+" + Check.repeat(" ", 392), 400);
         String many = "pass if " + Check.repeat("0+", 49) + "0";
         orderFault(many + " < 0", many.length() + 3);
         String music = "shift " + Check.repeat("music 1+", 24) + "owner 1";
@@ -240,6 +247,7 @@ public final class TextTest {
         check.due(13, "the tape", x.count(5), 0);
         check.due(13, "to be undone", x.count(4), 6);
         check.due(13, "to nobody", Check.orders(x, "give 3 to 0 - 1"), 1);
+        check.due(13, "once", Check.orders(x, "pass times 1"), 1);
         check.due(13, "none", Check.orders(x, "give 3 to 9 if 1 = 2; shift 0 if 1 / 0 = 1"), 0);
         check.due(13, "20 times", Check.orders(x, "pass times 20"), 20);
         check.due(13, "16 are kept", x.count(4), 16);
