@@ -4,10 +4,15 @@ final class Check {
     private int asked;
 
     void due(int promise, String call, long got, long want) {
+        due("promise " + promise, call, got, want);
+    }
+
+    /** The same for a sentence that is not a promise's own, such as one of the Terms. */
+    void due(String sentence, String call, long got, long want) {
         asked++;
         if (got != want) {
             wrong++;
-            System.out.println("promise " + promise + ": " + call + " answered " + got + ", due is " + want);
+            System.out.println(sentence + ": " + call + " answered " + got + ", due is " + want);
         }
     }
 
@@ -43,6 +48,25 @@ final class Check {
         if (x.end(length) != length) {
             throw new IllegalStateException("the tape is not as long as it should be");
         }
+    }
+
+    /** Sets the music of one beat. */
+    static void set(KeyHouses x, int beat, int keys) {
+        x.end(0);
+        tape(x, new byte[] {(byte) beat, (byte) keys});
+        if (x.row() != 1) {
+            throw new IllegalStateException("the row was not told");
+        }
+    }
+
+    /** A street of so many houses with these hands and this reach, to all of whom all keys are lent. */
+    static KeyHouses lending(int houses, int hands, int reach) {
+        KeyHouses x = new KeyHouses();
+        for (int i = 0; i < houses; i++) {
+            x.house(hands, reach);
+        }
+        x.force(law(x, "lends"));
+        return x;
     }
 
     static int law(KeyHouses x, String text) {

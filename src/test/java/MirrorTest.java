@@ -7,8 +7,9 @@ import java.util.TreeMap;
 
 /** All promises: runs of drawn calls on the class and on the Mirror, which must answer alike. */
 public final class MirrorTest {
-    private static final int RUNS = 400;
-    private static final int CALLS = 400;
+    private static final int RUNS = 1000;
+    /** What an object answers behind its 512th call is free, and a step makes up to some forty. */
+    private static final int CALLS = 512 - 60;
     /** Laws by which much can be had, so that debts, covers and the like are often told. */
     private static final String[] LENIENT = {
         "lends", "lends; minds [key * 7 + house * 5 + beat] % 9", "lends if house > owner; minds 3 * [key + house] % 5",
@@ -24,6 +25,7 @@ public final class MirrorTest {
     private final Mirror mirror = new Mirror();
     private final List<String> log = new ArrayList<>();
     private final int density;
+    private int calls;
     private boolean differs;
 
     private MirrorTest(long seed) {
@@ -70,7 +72,7 @@ public final class MirrorTest {
             call("law");
             call("force", 0);
         }
-        for (int i = 0; i < CALLS && !differs; i++) {
+        while (calls < CALLS && !differs) {
             step();
         }
         if (differs) {
@@ -91,6 +93,7 @@ public final class MirrorTest {
         if (got != -1) {
             OTHER_THAN_NONE.merge(name, 1, Integer::sum);
         }
+        calls++;
         log.add("  " + name + java.util.Arrays.toString(args) + " = " + got + (got == want ? "" : ", due is " + want));
         differs |= got != want;
         return got;

@@ -271,7 +271,20 @@ public final class TextTest {
         check.due(13, "day", x.count(12), 8);
     }
 
-    private static void refused(KeyHouses x, String text, int clause) {
+    /** A street with eighteen notes, of which sixteen can be undone, on day 980. */
+    private static KeyHouses noted() {
+        KeyHouses x = new KeyHouses();
+        x.house(1, 1);
+        x.terms(0, 980);
+        x.give(0, 0);
+        for (int i = 0; i < 18; i++) {
+            x.note(i % 7, i / 7);
+        }
+        return x;
+    }
+
+    private static KeyHouses refused(String text, int clause) {
+        KeyHouses x = noted();
         int[] before = state(x);
         check.due(13, text, Check.orders(x, text), -3);
         check.due(15, "stopped() by " + text, x.stopped(), clause);
@@ -281,6 +294,7 @@ public final class TextTest {
         for (int i = 0; i < before.length; i++) {
             check.due(13, "all as it was ahead of " + text + ", " + i, after[i], before[i]);
         }
+        return x;
     }
 
     private static int[] state(KeyHouses x) {
@@ -297,27 +311,20 @@ public final class TextTest {
     }
 
     private static void ordersTakenBack() {
-        KeyHouses x = new KeyHouses();
-        x.house(1, 1);
-        x.terms(0, 980);
-        x.give(0, 0);
-        for (int i = 0; i < 18; i++) {
-            x.note(i % 7, i / 7);
-        }
-        refused(x, "note 8 at 0", 0);
-        refused(x, "note 0 at 16", 0);
-        refused(x, "note 0 at 0 - 1", 0);
-        refused(x, "pass; note 1 at 1; give 0 to 0", 2);
-        refused(x, "give 0 to 0 - 1; give 0 to 1", 1);
-        refused(x, "give 0 to 0 - 2", 0);
-        refused(x, "give 8 to 0", 0);
-        refused(x, "pass times 20", 0);
-        refused(x, "shift 1; shift 1", 1);
-        refused(x, "shift 0", 0);
-        refused(x, "shift 8", 0);
-        refused(x, "pass; pass; note 1 / 0 at 1", 2);
-        refused(x, "pass; note 1 at 1000 * 1000 * 1000 + 1", 1);
-        refused(x, "note 1 at 3 times 20; note 2 at 3 times 19; give 1 to 0; pass times 10; pass times 10", 4);
+        refused("note 8 at 0", 0);
+        refused("note 0 at 16", 0);
+        refused("note 0 at 0 - 1", 0);
+        refused("pass; note 1 at 1; give 0 to 0", 2);
+        refused("give 0 to 0 - 1; give 0 to 1", 1);
+        refused("give 0 to 0 - 2", 0);
+        refused("give 8 to 0", 0);
+        refused("pass times 20", 0);
+        refused("shift 1; shift 1", 1);
+        refused("shift 0", 0);
+        refused("shift 8", 0);
+        refused("pass; pass; note 1 / 0 at 1", 2);
+        refused("pass; note 1 at 1000 * 1000 * 1000 + 1", 1);
+        KeyHouses x = refused("note 1 at 3 times 20; note 2 at 3 times 19; give 1 to 0; pass times 10; pass times 10", 4);
         for (int i = 17; i > 1; i--) {
             check.due(21, "undo() behind all that", x.undo(), 0);
             check.due(21, "the note is not there", x.music(i / 7) >> i % 7 & 1, 0);
