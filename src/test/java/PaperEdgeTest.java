@@ -749,6 +749,36 @@ public final class PaperEdgeTest {
             due("hands", y.of(house, 0), 2 + house);
             due("reach", y.of(house, 1), 7 - house);
         }
+        imagesKeepTheLast();
+    }
+
+    private static void imagesKeepTheLast() {
+        KeyHouses x = new KeyHouses();
+        x.house(1, 1);
+        x.note(5, 13);
+        for (int i = 0; i < 5; i++) {
+            x.motif(0);
+            Check.law(x, "minds " + (20 + i));
+        }
+        x.image(0);
+        x.motif(32);
+        Check.law(x, "minds 25");
+        x.force(5);
+        x.note(7, 15);
+        x.give(7, 0);
+        x.image(1);
+        x.back(0);
+        due("five sets alone: from beats 0 .. 8", x.find(-1), 9);
+        x.motif(129);
+        Check.law(x, "minds 35");
+        x.force(5);
+        due("another sixth law", x.asks(0, 0, 0, 0), 35);
+        due("another sixth set", x.find(-1), 0);
+        due("the last beat, the last key", x.music(15) + x.owner(7), -1);
+        x.back(1);
+        due("the sixth law", x.asks(0, 0, 0, 0), 25);
+        due("the sixth set", x.find(0), 807);
+        due("the last beat, the last key", x.music(15) + x.owner(7), 128);
     }
 
     private static void imagesDoNotKeep() {

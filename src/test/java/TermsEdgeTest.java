@@ -928,5 +928,26 @@ public final class TermsEdgeTest {
             due("the note", x.music(i / 8) >> i % 8 & 1, 0);
         }
         due("no more", x.undo(), -3);
+        asItWasAheadOfTheMost();
+    }
+
+    private static void asItWasAheadOfTheMost() {
+        KeyHouses x = new KeyHouses();
+        x.terms(0, 999 - 239);
+        for (int i = 0; i < 16; i++) {
+            x.note(i % 8, i / 8);
+        }
+        cannot(x, Check.repeat("pass times 20;", 11) + "pass times 20", 11);
+        due("239 days that passed", x.count(12), 999 - 239);
+        due("all 16 can be undone", x.count(4), 16);
+        for (int i = 15; i >= 0; i--) {
+            due("undo()", x.undo(), 0);
+            due("the note", x.music(i / 8) >> i % 8 & 1, 0);
+        }
+        due("no more", x.undo(), -3);
+        x.terms(0, 999 - 240);
+        due("240 of them can be", Check.orders(x, Check.repeat("pass times 20;", 11) + "pass times 20"), 240);
+        due("day", x.count(12), 999);
+        due("16 are kept", x.count(4), 16);
     }
 }
